@@ -1,0 +1,86 @@
+import java.util.function.Consumer;
+
+/** A new school for each test, with hands to feed it texts, and a count of what was not as due. */
+final class Bench {
+    private int wrong = 0;
+    private String promise = "";
+    OneSlip x = new OneSlip();
+
+    void test(String name, Consumer<Bench> body) {
+        promise = name;
+        x = new OneSlip();
+        body.accept(this);
+    }
+
+    void due(String call, long got, long want) {
+        if (got != want) {
+            wrong++;
+            System.out.println(promise + ": " + call + " answered " + got + ", due is " + want);
+        }
+    }
+
+    void due(String call, boolean got, boolean want) {
+        due(call, got ? 1 : 0, want ? 1 : 0);
+    }
+
+    void feed(int... bytes) {
+        for (int from = 0; from < bytes.length; from += 20) {
+            int[] w = new int[5];
+            for (int p = 0; p < 20; p++) {
+                w[p / 4] = w[p / 4] << 8 | (from + p < bytes.length ? bytes[from + p] : 'a');
+            }
+            x.feed(w[0], w[1], w[2], w[3], w[4]);
+        }
+    }
+
+    void feed(String text) {
+        feed(text.chars().toArray());
+    }
+
+    int proof(String text) {
+        x.check(0);
+        feed(text);
+        return x.proof(text.length());
+    }
+
+    int law(String text) {
+        x.check(0);
+        feed(text);
+        return x.law(text.length());
+    }
+
+    void proofIs(String text, int want) {
+        due("proof " + text, proof(text), want);
+    }
+
+    void lawIs(String text, int want) {
+        due("law " + text, law(text), want);
+    }
+
+    /** The MINUTES of one LINE (the first of the PROOF) by a law, where the E is within its bounds. */
+    void minutesAre(String clauses, int want) {
+        due("sound", law("r(i=0);" + clauses) > 0, true);
+        due("minutes by " + clauses, x.reads(0, 2), want);
+    }
+
+    void holds(String condition, boolean want) {
+        lawIs("r(" + condition + ")", 1);
+        due("hearer 3 reads line 0 by " + condition, (x.reads(3, 0) & 1) != 0, want);
+    }
+
+    /** All CLAIMS, as one row of two digits each (so that a test can tell them in one number). */
+    long claims() {
+        long row = 0;
+        for (int i = 0; i < x.count(0); i++) {
+            row = row * 100 + x.line(i, 0);
+        }
+        return row;
+    }
+
+    void end() {
+        System.out.println(wrong == 0 ? "all answers are as due" : wrong + " answers are not as due");
+        if (wrong != 0) {
+            System.exit(1);
+        }
+    }
+}

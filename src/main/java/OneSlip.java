@@ -610,6 +610,8 @@ public final class OneSlip {
         final int[] bytes = new int[MAX_TAPE];
         int size = 0;
         int place = 0;
+        // The byte at the place; -1 at the end, which is like no byte.
+        int sign = -1;
         int fault = 0;
         private int textLength = 0;
 
@@ -634,8 +636,14 @@ public final class OneSlip {
 
         void beginText(int n) {
             textLength = n;
-            place = 0;
             fault = 0;
+            place = -1;
+            step();
+        }
+
+        void step() {
+            place++;
+            sign = place >= 0 && place < textLength && place < bytes.length ? bytes[place] : -1;
         }
 
         boolean isSound() {
@@ -646,25 +654,18 @@ public final class OneSlip {
             return place >= textLength;
         }
 
-        /** The next byte; -1 at the end, which is like no byte. */
-        int next() {
-            return place >= 0 && place < textLength && place < bytes.length ? bytes[place] : -1;
-        }
-
-        boolean isDigitNext() {
-            int sign = next();
+        boolean isAtDigit() {
             return sign >= '0' && sign <= '9';
         }
 
-        /** Where the next byte stands among some signs; -1 if it is none of them. */
+        /** Where the byte stands among some signs; -1 if it is none of them. */
         int among(String signs) {
-            int sign = next();
             return sign < 0 ? -1 : signs.indexOf((char) sign);
         }
 
-        void expect(char sign) {
-            if (next() == sign) {
-                place++;
+        void expect(char wanted) {
+            if (sign == wanted) {
+                step();
             } else {
                 failHere();
             }
@@ -820,8 +821,10 @@ public final class OneSlip {
                     return modulo(modulus - at(claims, first));
                 case KIND_SUM:
                     return modulo(at(claims, first) + at(claims, second));
-                default:
+                case KIND_PRODUCT:
                     return modulo(at(claims, first) * at(claims, second));
+                default:
+                    return 0;
             }
         }
 
@@ -883,7 +886,7 @@ public final class OneSlip {
         }
 
         private void readLine(int line, int modulus) {
-            if (tape.isDigitNext() && line == MAX_LINES) {
+            if (tape.isAtDigit() && line == MAX_LINES) {
                 tape.fail(LINE_TOO_MANY, tape.place);
             }
             int claim = number(modulus, CLAIM_TOO_HIGH);
@@ -892,7 +895,7 @@ public final class OneSlip {
             if (kind < 0) {
                 tape.failHere();
             }
-            tape.place++;
+            tape.step();
             int first = kind == KIND_AXIOM ? digit() : number(line, LINE_NOT_AHEAD);
             int second = NO_SUCH_THING;
             if (kind >= KIND_SUM) {
@@ -905,19 +908,19 @@ public final class OneSlip {
         }
 
         private int digit() {
-            if (!tape.isDigitNext()) {
+            if (!tape.isAtDigit()) {
                 tape.failHere();
                 return 0;
             }
-            int digit = tape.next() - '0';
-            tape.place++;
+            int digit = tape.sign - '0';
+            tape.step();
             return digit;
         }
 
         private int number(int limit, int faultBeyond) {
             int start = tape.place;
             int number = digit();
-            if (tape.isSound() && tape.isDigitNext()) {
+            if (tape.isSound() && tape.isAtDigit()) {
                 number = 10 * number + digit();
             }
             if (number >= limit) {
@@ -1146,8 +1149,8 @@ public final class OneSlip {
             } else if (clause == MAX_CLAUSES) {
                 tape.fail(CLAUSE_TOO_MANY, tape.place);
             }
-            letter = tape.next();
-            tape.place++;
+            letter = tape.sign;
+            tape.step();
             fresh.openClause(letter);
         }
 
@@ -1160,28 +1163,28 @@ public final class OneSlip {
                 for (int piece = 0; piece < MAX_TEXT && more && tape.isSound(); piece++) {
                     readPiece(open);
                     fresh.aimHere(and);
-                    more = tape.next() == '&';
+                    more = tape.sign == '&';
                     if (more) {
                         and = fresh.emit(Law.AND, 0);
-                        tape.place++;
+                        tape.step();
                     }
                 }
                 fresh.aimHere(or);
-                if (tape.next() != '|') {
+                if (tape.sign != '|') {
                     return;
                 }
                 or = fresh.emit(Law.OR, 0);
-                tape.place++;
+                tape.step();
             }
         }
 
         private void readPiece(int open) {
-            if (tape.next() == '!') {
+            if (tape.sign == '!') {
                 if (mayOpen(open)) {
                     readPiece(open + 1);
                 }
                 fresh.emit(Law.NOT, 0);
-            } else if (tape.next() == '(') {
+            } else if (tape.sign == '(') {
                 if (mayOpen(open)) {
                     readChoice(open + 1);
                 }
@@ -1192,7 +1195,7 @@ public final class OneSlip {
                 if (tape.among(COMPARISONS) < 0) {
                     tape.failHere();
                 }
-                tape.place++;
+                tape.step();
                 readSum(open);
                 fresh.emit(comparison, 0);
             }
@@ -1203,7 +1206,7 @@ public final class OneSlip {
             if (open >= MAX_OPEN) {
                 tape.fail(OPEN_TOO_MANY, tape.place);
             }
-            tape.place++;
+            tape.step();
             return tape.isSound();
         }
 
@@ -1214,7 +1217,7 @@ public final class OneSlip {
                 readFactor(open);
                 for (int factor = 0; factor < MAX_TEXT && tape.isSound() && tape.among("*/%") >= 0; factor++) {
                     int operation = Law.BINARY + tape.among(Law.BINARIES);
-                    tape.place++;
+                    tape.step();
                     readFactor(open);
                     fresh.emit(operation, 0);
                 }
@@ -1225,22 +1228,22 @@ public final class OneSlip {
                     return;
                 }
                 waiting = Law.BINARY + tape.among(Law.BINARIES);
-                tape.place++;
+                tape.step();
             }
         }
 
         private void readFactor(int open) {
-            if (tape.next() == '[') {
+            if (tape.sign == '[') {
                 if (mayOpen(open)) {
                     readSum(open + 1);
                 }
                 tape.expect(']');
-            } else if (tape.isDigitNext()) {
+            } else if (tape.isAtDigit()) {
                 fresh.emit(Law.PUSH, number());
             } else if (tape.among(Law.FACTS) >= 0) {
-                fresh.asksClaim = fresh.asksClaim || letter == 'r' && tape.next() == 'v';
+                fresh.asksClaim = fresh.asksClaim || letter == 'r' && tape.sign == 'v';
                 fresh.emit(Law.FACT, tape.among(Law.FACTS));
-                tape.place++;
+                tape.step();
             } else {
                 tape.failHere();
             }
@@ -1248,11 +1251,11 @@ public final class OneSlip {
 
         private int number() {
             int number = 0;
-            for (int digits = 0; digits < MAX_DIGITS && tape.isDigitNext(); digits++) {
-                number = 10 * number + tape.next() - '0';
-                tape.place++;
+            for (int digits = 0; digits < MAX_DIGITS && tape.isAtDigit(); digits++) {
+                number = 10 * number + tape.sign - '0';
+                tape.step();
             }
-            if (tape.isDigitNext()) {
+            if (tape.isAtDigit()) {
                 tape.fail(DIGIT_TOO_MANY, tape.place);
             }
             return number;

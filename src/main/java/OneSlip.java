@@ -977,13 +977,13 @@ public final class OneSlip {
 
         void openClause(int letter) {
             put(letters, clauses, letter);
-            put(valueStarts, clauses, length);
         }
 
         void openCondition() {
             put(conditionStarts, clauses, length);
         }
 
+        /** Where a CLAUSE ends, the E of the next one starts. */
         void closeClause() {
             clauses++;
             put(valueStarts, clauses, length);

@@ -140,6 +140,12 @@ public final class SchoolTest {
         b.law("r(h<3&i%3=h);r(h=8&i<3);r(h=9&i>2)");
         b.due("two higher ones are fewer", b.x.readers(1023, 0), 2);
         b.due("two higher ones: who", b.x.readers(1023, 1), 768);
+        b.proof("3=a0" + ";3=s0".repeat(9));
+        b.law("r(i=h)");
+        b.due("all ten", b.x.readers(1023, 0), 10);
+        b.due("all ten: who", b.x.readers(1023, 1), 1023);
+        b.law("r(i=h|i=8&h=9)");
+        b.due("nine of ten", b.x.readers(1023, 1), 1023 - 256);
     }
 
     private static void order(Bench b) {
@@ -320,6 +326,10 @@ public final class SchoolTest {
         b.due("author(1, 0)", b.x.author(1, 0), 36);
         b.due("the tape is empty", b.x.count(2), 0);
         b.due("author(1, 0) of nothing", b.x.author(1, 0), -1);
+        b.feed(new int[40]);
+        b.due("author(6, 0) of 40 bytes", b.x.author(6, 0), -1);
+        b.due("author(0, 0) of 40 bytes", b.x.author(0, 0), -1);
+        b.due("the tape stays", b.x.count(2), 40);
     }
 
     private static void corrects(Bench b) {
@@ -412,7 +422,8 @@ public final class SchoolTest {
         school(b, "3=a0;4=a1;7=+0,1");
         int[][] rows = {{3, 3, 4, 7, 0, 0, -1}, {3, 3, 4, 8, 0, 0, 2}, {3, 4, 3, 7, 0, 0, 0}, {2, 3, 4, 9, 0, 0, -1},
             {4, 3, 4, 7, 0, 0, 3}, {5, 3, 4, 7, 0, 0, 3}, {5, 3, 5, 7, 0, 0, 1}, {0, 9, 9, 9, 9, 9, -1},
-            {3, 3, 4 + 256, 7, 0, 0, 1}, {1, 3 - 256, 0, 0, 0, 0, 0}};
+            {3, 3, 4 + 256, 7, 0, 0, 1}, {1, 3 - 256, 0, 0, 0, 0, 0}, {1, 3 + (1 << 24), 0, 0, 0, 0, 0},
+            {2, 3, 4 + (1 << 16), 0, 0, 0, 1}};
         for (int[] row : rows) {
             b.x.feed(row[1], row[2], row[3], row[4], row[5]);
             b.due("check(" + row[0] + ") of " + java.util.Arrays.toString(row), b.x.check(row[0]), row[6]);
@@ -423,6 +434,11 @@ public final class SchoolTest {
             b.due("check(" + n + ")", b.x.check(n), -2);
         }
         b.due("the tape stays", b.x.count(2), 20);
+        for (int i = 0; i < 4; i++) {
+            b.x.feed(3, 4, 7, 0, 0);
+        }
+        b.due("check(21) of 25 numbers", b.x.check(21), -2);
+        b.due("the tape stays", b.x.count(2), 100);
         b.proofIs("0=a5" + ";0=s0".repeat(19), 20);
         for (int i = 0; i < 4; i++) {
             b.x.feed(0, 0, 0, 0, i / 3);

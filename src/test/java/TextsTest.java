@@ -206,6 +206,9 @@ public final class TextsTest {
         b.lawIs("t99999(00000=00001)", 1);
         b.lawIs("r(1=1);".repeat(13) + "r(1=1)", 14);
         b.due("count(1)", b.x.count(1), 14);
+        b.proof("5=a0;5=s0");
+        b.lawIs("t9(0=1);".repeat(12) + "r(i=1);t7(i=1)", 14);
+        b.due("the last clause", b.x.reads(0, 2), 7);
     }
 
     private static void lawFaults(Bench b) {
@@ -277,6 +280,13 @@ public final class TextsTest {
         b.due("law(3)", b.x.law(3), -1003);
         b.due("the tape is empty behind a fault", b.x.count(2), 0);
         b.due("the law stays", b.x.count(1), 2);
+        b.lawIs("r(1" + "+1".repeat(97) + "=99", -1200);
+        b.lawIs("r(9" + "+1".repeat(97) + ">9)", 1);
+        b.proof("5=a0");
+        b.due("a law of 200 bytes", b.x.reads(0, 0), 1);
+        b.feed("r(1=1)".repeat(34));
+        b.due("law(201) of 220 bytes", b.x.law(201), -1);
+        b.due("the tape stays", b.x.count(2), 220);
     }
 
     private static void lawNumbers(Bench b) {

@@ -2,6 +2,11 @@ import java.util.function.Consumer;
 
 /** A new school for each test, with hands to feed it texts, and a count of what was not as due. */
 final class Bench {
+    /** Honest in the school below. */
+    static final String HONEST = "3=a0;4=a1;7=+0,1;1=*2,0;1=s3;9=n4";
+    /** The same with a SLIP at LINE 2. */
+    static final String SLIPPED = "3=a0;4=a1;8=+0,1;4=*2,0;4=s3;6=n4";
+
     private int wrong = 0;
     private String promise = "";
     OneSlip x = new OneSlip();
@@ -47,6 +52,14 @@ final class Bench {
         x.check(0);
         feed(text);
         return x.law(text.length());
+    }
+
+    /** Modulus 10, with 3 and 4 as axioms 0 and 1, and a PROOF. */
+    void school(String text) {
+        x.modulus(10);
+        x.axiom(0, 3);
+        x.axiom(1, 4);
+        due("the proof is sound", proof(text) > 0, true);
     }
 
     void proofIs(String text, int want) {

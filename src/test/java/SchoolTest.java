@@ -1,8 +1,5 @@
 /** Promises 14 to 17 and 23 to 32: HEARERS, THE ORDER, COPIES, PUPILS, and what is KEPT. */
 public final class SchoolTest {
-    private static final String HONEST = "3=a0;4=a1;7=+0,1;1=*2,0;1=s3;9=n4";
-    private static final String SLIPPED = "3=a0;4=a1;8=+0,1;4=*2,0;4=s3;6=n4";
-
     public static void main(String[] args) {
         Bench bench = new Bench();
         bench.test("14 reads", SchoolTest::reads);
@@ -25,18 +22,11 @@ public final class SchoolTest {
         bench.end();
     }
 
-    private static void school(Bench b, String text) {
-        b.x.modulus(10);
-        b.x.axiom(0, 3);
-        b.x.axiom(1, 4);
-        b.due("the proof is sound", b.proof(text) > 0, true);
-    }
-
     private static void reads(Bench b) {
         b.due("without a proof and a law", b.x.reads(0, 0), 0);
         b.law("r(1=1);t5(1=1)");
         b.due("without a proof", b.x.reads(9, 2), 0);
-        school(b, SLIPPED);
+        b.school(Bench.SLIPPED);
         b.law("r(k>2|h=1&i<2);r(h=2);td+1+h(i<5);t7(1=1)");
         int[][] due = {{12, 4, 2 + 3}, {15, 4, 2 + 2 + 3 + 4}, {63, 4, 3 + 3 + 4 + 5 + 6 + 7}, {12, 4, 5 + 6}};
         for (int h = 0; h < 4; h++) {
@@ -57,7 +47,7 @@ public final class SchoolTest {
 
     private static void hidden(Bench b) {
         b.due("without a proof", b.x.hidden(1, 0), -1);
-        school(b, HONEST);
+        b.school(Bench.HONEST);
         b.due("without a law: line", b.x.hidden(1023, 0), 0);
         b.due("without a law: claim", b.x.hidden(1023, 1), 0);
         b.due("without a law: finders", b.x.hidden(1023, 2), 0);
@@ -76,7 +66,7 @@ public final class SchoolTest {
         b.law("r(1=1)");
         b.due("all find all", b.x.hidden(1023, 2), 10);
         b.due("all find all: line", b.x.hidden(1023, 0), 0);
-        school(b, "0=a0;0=s0");
+        b.school("0=a0;0=s0");
         b.due("in the honest one: claim", b.x.hidden(1, 1), 0);
         b.due("nothing is changed", b.claims(), 0);
         b.x.axiom(0, 0);
@@ -84,7 +74,7 @@ public final class SchoolTest {
     }
 
     private static void hiddenByClaim(Bench b) {
-        school(b, HONEST);
+        b.school(Bench.HONEST);
         b.law("r(v<6|h=0&v<9)");
         b.due("line", b.x.hidden(3, 0), 0);
         b.due("claim", b.x.hidden(3, 1), 9);
@@ -103,7 +93,7 @@ public final class SchoolTest {
     private static void unread(Bench b) {
         b.due("without a proof", b.x.unread(1), 0);
         b.due("without a proof, beyond", b.x.unread(1024), -1);
-        school(b, HONEST);
+        b.school(Bench.HONEST);
         b.due("without a law", b.x.unread(1023), 63);
         b.law("r(k>2|h=1&i<2);r(h=2)");
         b.due("unread(0)", b.x.unread(0), 63);
@@ -121,7 +111,7 @@ public final class SchoolTest {
     private static void readers(Bench b) {
         b.due("without a proof", b.x.readers(3, 0), 0);
         b.due("without a proof: who", b.x.readers(3, 1), 0);
-        school(b, HONEST);
+        b.school(Bench.HONEST);
         b.due("none of none", b.x.readers(0, 0), -2);
         b.law("r(k>2|h=1&i<2);r(h=2)");
         b.due("readers(7, 0)", b.x.readers(7, 0), 1);
@@ -151,7 +141,7 @@ public final class SchoolTest {
     private static void order(Bench b) {
         b.due("without a proof", b.x.order(0, 0), -1);
         b.due("without a proof: the mean", b.x.order(0, 30), -1);
-        school(b, HONEST);
+        b.school(Bench.HONEST);
         b.law("td+1(1=1);wk(1=1)");
         int[] row = {2, 3, 5, 4, 0, 1};
         for (int place = 0; place < 6; place++) {
@@ -171,7 +161,7 @@ public final class SchoolTest {
     }
 
     private static void orderTies(Bench b) {
-        school(b, HONEST);
+        b.school(Bench.HONEST);
         b.due("without a law", rowOf(b, 0), 12345);
         b.law("t5(1=1);w3(1=1)");
         b.due("all alike", rowOf(b, 0), 12345);
@@ -199,7 +189,7 @@ public final class SchoolTest {
     }
 
     private static void orderMean(Bench b) {
-        school(b, "3=a0;4=a1;7=+0,1");
+        b.school("3=a0;4=a1;7=+0,1");
         b.due("without a law: above", b.x.order(0, 30), 0);
         b.due("without a law: below", b.x.order(0, 31), 1);
         b.law("t1(1=1);w1(1=1)");
@@ -239,7 +229,7 @@ public final class SchoolTest {
     private static void copied(Bench b) {
         b.due("without a proof", b.x.copied(1), -1);
         b.due("X stays", b.x.count(3), 1);
-        school(b, HONEST);
+        b.school(Bench.HONEST);
         for (int n : new int[] {0, -1, 21, Integer.MAX_VALUE}) {
             b.due("copied(" + n + ")", b.x.copied(n), -1);
         }
@@ -277,7 +267,7 @@ public final class SchoolTest {
     }
 
     private static void author(Bench b) {
-        school(b, HONEST);
+        b.school(Bench.HONEST);
         int[] one = {3, 4, 8, 4, 4, 6};
         int[] two = {3, 4, 8, 4, 2, 8};
         authorIs(b, 1, new int[] {36, 2, 0}, one);
@@ -292,7 +282,7 @@ public final class SchoolTest {
         authorIs(b, 5, new int[] {1, 2, 8}, one, two, one, two, new int[] {3, 4, 8, 4, 4, 5});
         authorIs(b, 2, new int[] {0, -2, -2}, two, new int[] {3, 4, 7, 2, 3, 7});
         b.due("nothing is changed", b.claims(), 30407010109L);
-        school(b, SLIPPED);
+        b.school(Bench.SLIPPED);
         authorIs(b, 2, new int[] {1, 2, 8}, one, two);
         b.due("claims do not matter and stay", b.claims(), 30408040406L);
     }
@@ -314,7 +304,7 @@ public final class SchoolTest {
     private static void authorTape(Bench b) {
         b.feed(3, 4);
         b.due("without a proof", b.x.author(1, 0), -1);
-        school(b, HONEST);
+        b.school(Bench.HONEST);
         b.feed(3, 4, 8, 4, 4, 6);
         b.due("author(0, 0)", b.x.author(0, 0), -1);
         b.due("author(6, 0)", b.x.author(6, 0), -1);
@@ -334,7 +324,7 @@ public final class SchoolTest {
 
     private static void corrects(Bench b) {
         b.due("without a proof", b.x.corrects(0, 0, 0), -1000);
-        school(b, SLIPPED);
+        b.school(Bench.SLIPPED);
         b.due("corrects(8, 2, 7)", b.x.corrects(8, 2, 7), -1000);
         b.due("corrects(-1, 2, 7)", b.x.corrects(-1, 2, 7), -1000);
         b.due("corrects(0, 6, 7)", b.x.corrects(0, 6, 7), -1000);
@@ -350,7 +340,7 @@ public final class SchoolTest {
         b.due("all behind is honest", b.claims(), 30407010109L);
         b.due("right no more", b.x.corrects(0, 2, 7), 0);
         b.due("and below", b.x.corrects(0, 2, 7), -1);
-        school(b, "4=a0;4=a1;9=+0,1");
+        b.school("4=a0;4=a1;9=+0,1");
         b.due("what its rule makes of claims as they are", b.x.corrects(7, 2, 8), 1);
         b.due("claims ahead stay", b.claims(), 40408);
         b.due("the first one", b.x.corrects(7, 0, 3), 2);
@@ -358,7 +348,7 @@ public final class SchoolTest {
     }
 
     private static void points(Bench b) {
-        school(b, HONEST);
+        b.school(Bench.HONEST);
         for (int n = 1; n <= 101; n++) {
             b.due("one less", b.x.corrects(3, 0, 0), Math.max(-99, -n));
         }
@@ -377,14 +367,14 @@ public final class SchoolTest {
     private static void keepAndUndo(Bench b) {
         b.due("undo() where none was kept", b.x.undo(), false);
         b.due("keep() without a proof", b.x.keep(), 0);
-        school(b, HONEST);
+        b.school(Bench.HONEST);
         b.x.seed(5);
         b.due("undo()", b.x.undo(), true);
         b.due("no proof", b.x.count(0), 0);
         b.due("the modulus", b.x.count(4), 97);
         b.due("an axiom", b.x.count(10), 0);
         b.due("X", b.x.count(3), 1);
-        school(b, SLIPPED);
+        b.school(Bench.SLIPPED);
         b.x.seed(5);
         b.x.corrects(6, 0, 0);
         b.law("r(1=1)");
@@ -419,7 +409,7 @@ public final class SchoolTest {
         b.due("check(0)", b.x.check(0), -1);
         b.x.feed(0, 0, 0, 0, 0);
         b.due("check(1) without a proof", b.x.check(1), 0);
-        school(b, "3=a0;4=a1;7=+0,1");
+        b.school("3=a0;4=a1;7=+0,1");
         int[][] rows = {{3, 3, 4, 7, 0, 0, -1}, {3, 3, 4, 8, 0, 0, 2}, {3, 4, 3, 7, 0, 0, 0}, {2, 3, 4, 9, 0, 0, -1},
             {4, 3, 4, 7, 0, 0, 3}, {5, 3, 4, 7, 0, 0, 3}, {5, 3, 5, 7, 0, 0, 1}, {0, 9, 9, 9, 9, 9, -1},
             {3, 3, 4 + 256, 7, 0, 0, 1}, {1, 3 - 256, 0, 0, 0, 0, 0}, {1, 3 + (1 << 24), 0, 0, 0, 0, 0},
@@ -449,7 +439,7 @@ public final class SchoolTest {
     private static void count(Bench b) {
         b.due("count(5) without lines", b.x.count(5), -1);
         b.due("count(6) without lines", b.x.count(6), -1);
-        school(b, SLIPPED);
+        b.school(Bench.SLIPPED);
         b.law("r(1=1);t1(1=1)");
         b.x.seed(9);
         b.feed("abc");

@@ -17,6 +17,11 @@ final class Bench {
         body.accept(this);
     }
 
+    /** Another new school within a test: one is used for 512 calls alone. */
+    void fresh() {
+        x = new OneSlip();
+    }
+
     void due(String call, long got, long want) {
         if (got != want) {
             wrong++;
@@ -79,6 +84,10 @@ final class Bench {
     void holds(String condition, boolean want) {
         lawIs("r(" + condition + ")", 1);
         due("hearer 3 reads line 0 by " + condition, (x.reads(3, 0) & 1) != 0, want);
+    }
+
+    void claimsAre(String when, long want) {
+        due("claims " + when, claims(), want);
     }
 
     /** All CLAIMS, as one row of two digits each (so that a test can tell them in one number). */

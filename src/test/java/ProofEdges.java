@@ -502,6 +502,24 @@ final class ProofEdges {
         for (int i = 0; i < 4; i++) {
             b.due("DEPTH of line " + i, b.x.line(i, 6), depths[i]);
         }
+        shorterThanBefore(b);
+    }
+
+    /** Of a PROOF of twenty LINES nothing is left behind the last LINE of one that is shorter. */
+    private static void shorterThanBefore(Bench b) {
+        b.proofIs("1=a0" + ";2=s0".repeat(19), 20);
+        b.due("all of the longer one are WRONG", b.x.wrong(), (1 << 20) - 1);
+        b.proofIs("1=a0;2=s0", 2);
+        b.due("wrong()", b.x.wrong(), 3);
+        b.due("untrue()", b.x.untrue(), 3);
+        b.due("stands(0, 0)", b.x.stands(0, 0), 2);
+        b.due("unread(1023)", b.x.unread(1023), 3);
+        b.due("anew(0, 4, 0)", b.x.anew(0, 4, 0), -1);
+        b.due("added(1)", b.x.added(1), 0);
+        b.due("order(0, 2)", b.x.order(0, 2), -1);
+        b.due("cancel(0)", b.x.cancel(0), 96);
+        b.due("honest()", b.x.honest(), 2);
+        b.due("keep()", b.x.keep(), 2);
     }
 
     private static void faultLeavesProof(Bench b) {

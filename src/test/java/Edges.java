@@ -57,11 +57,6 @@ final class Edges {
         bench.test(section + " \"" + sentence + "\"", test);
     }
 
-    /** One that names no boundary case of its own. */
-    void namesNone(String section, String sentence) {
-        markTold(section, sentence);
-    }
-
     private void markTold(String section, String sentence) {
         String text = sections.getOrDefault(section, "");
         int place = text.indexOf(plain(sentence));

@@ -12,6 +12,7 @@ import java.util.List;
 import java.util.regex.Matcher;
 import java.util.regex.Pattern;
 import java.util.stream.Stream;
+import javax.tools.JavaCompiler;
 import javax.tools.ToolProvider;
 
 /** README.md: there, not empty, names every call, and its example answers as it says. */
@@ -78,10 +79,15 @@ public final class ReadmeTest {
         String body = TOLD.matcher(example).replaceAll("ReadmeTest.due(\"$1\", $1, \"$2\");");
         String source = "public final class Example {\n" + hand
                 + "public static void run() {\n" + body + "}\n}\n";
+        JavaCompiler compiler = ToolProvider.getSystemJavaCompiler();
+        due("there is a compiler", compiler != null);
+        if (compiler == null) {
+            return;
+        }
         Path dir = Files.createTempDirectory("readme");
         try {
             Path file = Files.writeString(dir.resolve("Example.java"), source);
-            int code = ToolProvider.getSystemJavaCompiler().run(null, null, null,
+            int code = compiler.run(null, null, null,
                     "-cp", System.getProperty("java.class.path"), "-d", dir.toString(), file.toString());
             due("the example compiles", code == 0);
             if (code == 0) {
